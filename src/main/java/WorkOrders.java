@@ -8,7 +8,7 @@ import java.util.Arrays;
 public final class WorkOrders {
     public static final int NONE = -1, BAD = -2, NO = -3, FULL = -4;
 
-    /** Some calls may answer -1 and below as numbers of WORKS or refusals, so they refuse by these. */
+    /** The calls that ask for an order, a minute or a judgement refuse by these. */
     private static final int BAD_ASKED = -10, NO_ASKED = -20;
 
     private static final int MOST_WORKS = 8, MOST_BENCHES = 4, LEAST_BENCHES = 2, MOST_WAY = 9;
