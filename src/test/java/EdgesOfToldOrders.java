@@ -145,6 +145,10 @@ final class EdgesOfToldOrders {
         for (int aim = 0; aim < 6; aim++) {
             Edge.is("2 1 0 by " + aim, Edge.judged(x, aim, 2, 1, 0), makes[aim]);
         }
+        WorkOrders y = Edge.of(1, 1, 1);
+        y.ahead(0, 2, true);
+        Edge.is("ahead of it, not just ahead", Edge.judged(y, 0, 0, 1, 2), 3);
+        Edge.is("behind it, not just behind", Edge.judged(y, 0, 2, 1, 0), -20);
         x.ahead(2, 1, false);
         Edge.is("no more ahead", Edge.judged(x, 0, 1, 0, 2), 3);
         Edge.is("the other one still is", Edge.judged(x, 0, 0, 1, 2), -20);

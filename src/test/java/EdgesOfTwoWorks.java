@@ -88,14 +88,26 @@ final class EdgesOfTwoWorks {
     private static void within() {
         Edge.of(Edge.TERMS,
                 "and as one is within a STEP (begun, not done) the other is not within one of that bench:");
-        // One needs bench 0 from 2 on, for a minute, then has 15 to go; the other needs it for 20 in all.
-        Edge.is("between two STEPS at 2: it waits a minute", of(s(0, 2, 0, 18), s(1, 2, 0, 1, 2, 15)).walk(), 21);
-        Edge.is("within its STEP at 2: it can't begin till 3", of(s(0, 20), s(1, 2, 0, 1, 2, 15)).walk(), 23);
-        Edge.is("a STEP of two minutes: not till 4", of(s(0, 20), s(1, 2, 0, 2, 2, 15)).walk(), 24);
-        Edge.is("the second between two", of(s(1, 2, 0, 1, 2, 15), s(0, 2, 0, 18)).walk(), 21);
-        Edge.is("the second within one", of(s(1, 2, 0, 1, 2, 15), s(0, 20)).walk(), 23);
+        for (int bench = 0; bench < 6; bench++) {
+            within(bench, (bench + 1) % 6, (bench + 2) % 6);
+        }
         Edge.is("not begun: it may be done first", of(s(0, 20), s(0, 1, 1, 20)).walk(), 21);
         Edge.is("done: it is free", of(s(0, 1, 1, 20), s(0, 20)).walk(), 21);
+    }
+
+    /** One needs bench b from 2 on, for a minute, then has 15 to go; the other needs it for 20 in all. */
+    private static void within(int b, int c, int d) {
+        String on = ", on " + b;
+        int[] minute = s(c, 2, b, 1, d, 15);
+        int[] twoMinutes = s(c, 2, b, 2, d, 15);
+        Edge.is("between two STEPS at 2: it waits a minute" + on, of(s(b, 2, b, 18), minute).walk(), 21);
+        Edge.is("within its STEP at 2: it can't begin till 3" + on, of(s(b, 20), minute).walk(), 23);
+        Edge.is("a STEP of two minutes: not till 4" + on, of(s(b, 20), twoMinutes).walk(), 24);
+        Edge.is("the second between two" + on, of(minute, s(b, 2, b, 18)).walk(), 21);
+        Edge.is("the second within one" + on, of(minute, s(b, 20)).walk(), 23);
+        Edge.is("the second within one, of two minutes" + on, of(twoMinutes, s(b, 20)).walk(), 24);
+        // Both wait at their own benches: a STEP that is begun holds no other bench.
+        Edge.is("within STEPS of two benches" + on, of(s(b, 20, c, 3), s(c, 17, d, 20)).walk(), 37);
     }
 
     private static void fewest() {
