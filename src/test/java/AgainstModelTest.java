@@ -287,6 +287,9 @@ final class AgainstModelTest {
             int which = within(0, 1), bench = within(0, benches), v = within(1, longest);
             Due.is(name + "step(" + which + ", " + bench + ", " + v + ")", x.step(which, bench, v), m.step(which, bench, v));
             Due.is(name + "walk() behind step " + i, x.walk(), m.walk());
+            if (m.meetings().size() <= 9) {
+                Due.is(name + "walk() is the least by turns", x.walk(), m.leastByTurns());
+            }
         }
         Due.is(name + "digest()", x.digest(), m.digest());
     }

@@ -5,7 +5,9 @@ import java.lang.reflect.Method;
 import java.lang.reflect.Modifier;
 import java.nio.file.Files;
 import java.nio.file.Path;
+import java.util.ArrayList;
 import java.util.HashSet;
+import java.util.List;
 import java.util.Set;
 import java.util.TreeSet;
 import java.util.regex.Matcher;
@@ -26,6 +28,7 @@ final class FaceTest {
 
     public static void main(String[] args) throws IOException {
         face();
+        asTheDocumentSays();
         inside();
         text();
         Due.end();
@@ -59,6 +62,52 @@ final class FaceTest {
         Due.is("BAD", WorkOrders.BAD, -2);
         Due.is("NO", WorkOrders.NO, -3);
         Due.is("FULL", WorkOrders.FULL, -4);
+    }
+
+    /** The document tells the face twice, as a whole and ahead of each promise, and its parts by calls. */
+    private static void asTheDocumentSays() throws IOException {
+        List<String> whole = new ArrayList<>();
+        List<String> byPromise = new ArrayList<>();
+        String parts = "";
+        for (String line : Files.readAllLines(Path.of("../shared/DOC.md"))) {
+            if (line.matches(" {4}public (int|long) \\w+\\(.*\\);")) {
+                whole.add(withoutNames(line.trim().replace("public ", "").replace(";", "")));
+            } else if (line.matches("`(int|long) \\w+\\(.*\\)`: .*")) {
+                byPromise.add(withoutNames(line.substring(1, line.indexOf(")`") + 1)));
+            } else if (line.startsWith("Ahead of the calls ")) {
+                parts += part(line) + "\n";
+            }
+        }
+        Due.holds("the face as a whole: " + whole, whole.equals(List.of(FACE)));
+        Due.holds("the face by promises: " + byPromise, byPromise.equals(List.of(FACE)));
+        Due.holds("the parts of the face: " + parts, parts.equals(partsOfTheClass()));
+    }
+
+    private static String withoutNames(String signature) {
+        return signature.replaceAll("(int|boolean) \\w+(?=[,)])", "$1").replace(", ", ",");
+    }
+
+    /** The name of a part, and its calls. */
+    private static String part(String line) {
+        StringBuilder part = new StringBuilder(line.replaceAll(".*says: |\\.$", ""));
+        Matcher call = Pattern.compile("`(\\w+)`").matcher(line);
+        while (call.find()) {
+            part.append(' ').append(call.group(1));
+        }
+        return part.toString();
+    }
+
+    private static String partsOfTheClass() throws IOException {
+        StringBuilder parts = new StringBuilder();
+        for (String line : Files.readAllLines(Path.of("src/main/java/WorkOrders.java"))) {
+            Matcher call = Pattern.compile("^ {4}public (int|long) (\\w+)\\(.*").matcher(line);
+            if (line.startsWith("    // ----")) {
+                parts.append(parts.length() == 0 ? "" : "\n").append(line.substring(7));
+            } else if (call.matches()) {
+                parts.append(' ').append(call.group(2));
+            }
+        }
+        return parts.append('\n').toString();
     }
 
     private static String told(Method method) {

@@ -449,6 +449,55 @@ final class Model {
         }
     }
 
+    /** The pairs of STEPS, one of each, that need the same bench. */
+    List<int[]> meetings() {
+        List<int[]> pairs = new ArrayList<>();
+        for (int i = 0; i < steps.get(0).size(); i++) {
+            for (int j = 0; j < steps.get(1).size(); j++) {
+                if (steps.get(0).get(i)[0] == steps.get(1).get(j)[0]) pairs.add(new int[] {i, j});
+            }
+        }
+        return pairs;
+    }
+
+    /** What THE WALK must reach: the least last END over all choices of who is first where both need a bench. */
+    int leastByTurns() {
+        List<int[]> pairs = meetings();
+        int least = Integer.MAX_VALUE;
+        for (int turns = 0; turns < 1 << pairs.size(); turns++) {
+            least = Math.min(least, lastEndByTurns(pairs, turns));
+        }
+        return least;
+    }
+
+    private int lastEndByTurns(List<int[]> pairs, int turns) {
+        int[][] ends = {new int[steps.get(0).size()], new int[steps.get(1).size()]};
+        // Ends only grow; those that still do behind so many rounds wait for each other round about.
+        for (int round = 0; round < 14; round++) {
+            boolean grows = false;
+            for (int which = 0; which < 2; which++) {
+                for (int i = 0; i < ends[which].length; i++) {
+                    int begins = i == 0 ? 0 : ends[which][i - 1];
+                    for (int k = 0; k < pairs.size(); k++) {
+                        boolean isSecond = (turns >> k & 1) != which;
+                        if (pairs.get(k)[which] == i && isSecond) {
+                            begins = Math.max(begins, ends[1 - which][pairs.get(k)[1 - which]]);
+                        }
+                    }
+                    int end = begins + steps.get(which).get(i)[1];
+                    grows |= end > ends[which][i];
+                    ends[which][i] = end;
+                }
+            }
+            if (!grows) {
+                int last = 0;
+                for (int[] row : ends) for (int end : row) last = Math.max(last, end);
+                return last;
+            }
+        }
+        return Integer.MAX_VALUE;
+    }
+
     int leaf(int on) {
         if (out(on, -1, hangs.size() - 1)) return -2;
         if (hangs.size() == 12) return -4;
